@@ -524,9 +524,8 @@ public final class WheelDisc {
             lights[at] = is ? lights[at] | bit : lights[at] & ~bit;
         }
 
+        /** No light is ever set behind the last TRACK, so the next one is dark as it is. */
         int addDarkTrack() {
-            int from = tracks * LONGS_OF_TRACK;
-            Arrays.fill(lights, from, from + LONGS_OF_TRACK, 0L);
             tracks++;
             return tracks - 1;
         }
@@ -868,7 +867,7 @@ public final class WheelDisc {
             }
             sectors = view.sectors;
             readers = view.readers;
-            Arrays.fill(row, 0, sectors, ABOVE_ALL_WORDS);
+            Arrays.fill(row, ABOVE_ALL_WORDS);
             tryAllStarts(view.words, 1);
             tryAllStarts(view.words, -1);
             isStale = false;

@@ -231,6 +231,11 @@ public final class RimsAndDiscsTest {
         Due.answer(x, "lift 0", x.lift(0), 0);
         Due.refused(x, "lift of none", x.lift(0), 1);
         Due.words(x, "no readers", 0, 0, 0, 0);
+        WheelDisc y = Due.ring("00001", 0, 1, 3, 4);
+        y.lift(1);
+        Due.answer(y, "lift: place ahead", y.seen(0, 1), 0);
+        Due.answer(y, "lift: place behind", y.seen(1, 1), 3);
+        Due.answer(y, "lift: last place", y.seen(2, 1), 4);
     }
 
     private static void turn9() {

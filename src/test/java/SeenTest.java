@@ -283,7 +283,12 @@ public final class SeenTest {
     }
 
     private static void keep24same25() {
-        WheelDisc x = Due.disc("001011", "010001");
+        WheelDisc x = new WheelDisc();
+        x.keep();
+        Due.yes(x, "same of a new one", x.same());
+        x.disc(1);
+        Due.yes(x, "same as a new one", x.same());
+        x = Due.disc("001011", "010001");
         Due.refused(x, "same: nothing kept", x.same(), 2);
         int had = x.count(4);
         Due.yes(x, "keep", x.keep());
