@@ -132,6 +132,10 @@ public final class DrivesTest {
         Due.answer(x, "mend: a bit that no reader has", x.mend(), 1);
         x.disc(3);
         Due.answer(x, "mend: all alike, to 0", x.mend(), 0);
+        x.gray(512, 10);
+        Due.answer(x, "no slip on the largest disc", x.slip(), WheelDisc.NONE);
+        x.drive(256 + 512);
+        Due.answer(x, "mend on the largest disc", x.mend(), 511);
     }
 
     private static void mendChoosesTheNearest35() {

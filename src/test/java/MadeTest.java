@@ -202,32 +202,34 @@ public final class MadeTest {
         Due.answer(x, "the latest search", x.go(7), 1);
     }
 
-    /** Every SINGLE of a search, against the rule taken at its word. */
+    /** Every SINGLE of every search, against the rule taken at its word. */
     private static void allSingles29() {
-        int[][] sizes = {{4, 2}, {6, 2}, {6, 3}, {8, 4}, {9, 3}, {10, 5}, {12, 3}, {12, 4}, {15, 5}, {16, 4}, {18, 3},
-            {20, 2}, {20, 4}, {20, 5}};
-        for (int[] size : sizes) {
-            int n = size[0];
-            int r = size[1];
-            WheelDisc x = new WheelDisc();
-            Due.answer(x, n + " " + r + ": begun", x.single(n, r, 0), WheelDisc.SPENT);
-            int gone = 0;
-            for (int number = 0; number < 1 << n; number++) {
-                if (!isSingle(number, n, r)) {
-                    continue;
-                }
-                if (number - gone > 0) {
-                    Due.answer(x, n + " " + r + ": to the one ahead of " + number, x.go(number - gone), WheelDisc.SPENT);
-                }
-                Due.answer(x, n + " " + r + ": " + number, x.go(1), 1);
-                gone = number + 1;
-                for (int s = 0; s < n; s++) {
-                    Due.is(n + " " + r + " " + number + ": word " + s, x.word(s), word(number, n, r, s));
+        for (int n = 2; n <= 20; n++) {
+            for (int r = 2; r <= 5; r++) {
+                if (n % r == 0) {
+                    allSinglesOf(n, r);
                 }
             }
-            Due.answer(x, n + " " + r + ": to the last but one", x.go((1 << n) - gone - 1), WheelDisc.SPENT);
-            Due.answer(x, n + " " + r + ": to the last", x.go(1), 0);
         }
+    }
+
+    private static void allSinglesOf(int n, int r) {
+        WheelDisc x = new WheelDisc();
+        String search = n + " " + r + ": ";
+        Due.answer(x, search + "begun", x.single(n, r, 0), WheelDisc.SPENT);
+        int gone = 0;
+        for (int number = 0; number < 1 << n; number++) {
+            if (isSingle(number, n, r)) {
+                Due.answer(x, search + "to the one ahead of " + number, x.go(number - gone), WheelDisc.SPENT);
+                Due.answer(x, search + number, x.go(1), 1);
+                gone = number + 1;
+                for (int s = 0; s < n; s++) {
+                    Due.is(search + number + ": word " + s, x.word(s), word(number, n, r, s));
+                }
+            }
+        }
+        Due.answer(x, search + "to the last but one", x.go((1 << n) - gone - 1), WheelDisc.SPENT);
+        Due.answer(x, search + "to the last", x.go(1), 0);
     }
 
     private static int word(int number, int n, int r, int stand) {

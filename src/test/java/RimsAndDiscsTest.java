@@ -263,6 +263,23 @@ public final class RimsAndDiscsTest {
         x.turn(500);
         Due.answer(x, "turn of 512", x.light(0, 12, true), 1);
         Due.answer(x, "turn of 512", x.light(0, 0, true), 0);
+        turnTheLargest9();
+    }
+
+    private static void turnTheLargest9() {
+        WheelDisc x = new WheelDisc();
+        x.gray(512, 10);
+        Due.yes(x, "turn of the largest", x.turn(1));
+        for (int s = 0; s < 512; s++) {
+            int i = (s + 1) % 512;
+            Due.is("turn of the largest: word " + s, x.word(s), i ^ (i >> 1));
+        }
+        Due.yes(x, "mirror of the largest", x.mirror());
+        Due.answer(x, "mirror of the largest: first word", x.word(0), 0);
+        Due.answer(x, "mirror of the largest: last word", x.word(511), 1);
+        for (int left = 9; left >= 0; left--) {
+            Due.answer(x, "lift of ten", x.lift(0), left);
+        }
     }
 
     private static void mirror10() {
