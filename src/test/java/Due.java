@@ -14,6 +14,14 @@ final class Due {
         }
     }
 
+    static void same(String what, String got, String want) {
+        asked++;
+        if (!got.equals(want)) {
+            wrong++;
+            System.out.println(what + ": " + got + ", due is " + want);
+        }
+    }
+
     /** An answer of a call that is not refused: fault() must tell 0. */
     static void answer(WheelDisc x, String what, long got, long want) {
         is(what, got, want);
@@ -79,12 +87,16 @@ final class Due {
     /** A disc of one track, with readers at these places. */
     static WheelDisc ring(String lights, int... places) {
         WheelDisc x = new WheelDisc();
+        ring(x, lights, places);
+        return x;
+    }
+
+    static void ring(WheelDisc x, String lights, int... places) {
         x.disc(lights.length());
         track(x, lights);
         for (int place : places) {
             x.reader(0, place);
         }
-        return x;
     }
 
     static void end() {
