@@ -87,8 +87,15 @@ public final class DrivesEdgesTest {
         Due.is("30 drive: followed by an object's last call", x.stands(510), 1);
     }
 
+    private static void drive2000(WheelDisc x) {
+        for (int i = 0; i < 2000; i++) {
+            x.drive(0);
+        }
+    }
+
     /** More calls than an object is promised for, and yet the only way there. */
     private static void promise30_twoThousand() {
+        Refusal.number("30 drive: one more than 2000", DrivesEdgesTest::drive2000, y -> y.drive(1), 4);
         WheelDisc x = new WheelDisc();
         for (int i = 1; i < 2000; i++) {
             x.drive(0);

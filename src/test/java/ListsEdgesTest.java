@@ -76,12 +76,17 @@ public final class ListsEdgesTest {
         }
     }
 
-    /** One call more than an object is promised for, and yet the only way there. */
-    private static void promise36_oneMore() {
-        WheelDisc x = new WheelDisc();
+    private static void tell512(WheelDisc x) {
         for (int i = 1; i <= 512; i++) {
             x.tell(i);
         }
+    }
+
+    /** One call more than an object is promised for, and yet the only way there. */
+    private static void promise36_oneMore() {
+        Refusal.number("36 tell: one more than 512", ListsEdgesTest::tell512, y -> y.tell(1), 4);
+        WheelDisc x = new WheelDisc();
+        tell512(x);
         Due.refused(x, "36 tell: one more than 512", x.tell(1), 4);
         Due.answer(x, "36 tell: it is not taken", x.count(6), 512);
         Due.answer(x, "36 tell: it is not taken", x.check(1), -1);
