@@ -123,7 +123,7 @@ public final class WheelDisc {
 
     public boolean turn(int k) {
         beginChange();
-        currentDisc.turnBy(Math.floorMod(k, currentDisc.sectors), turnRow);
+        currentDisc.turnBy(currentDisc.standRound(k), turnRow);
         return grant(true);
     }
 
@@ -552,6 +552,10 @@ public final class WheelDisc {
             int place = placeOf[a];
             placeOf[a] = placeOf[b];
             placeOf[b] = place;
+        }
+
+        int standRound(int k) {
+            return sectors < 1 ? 0 : Math.floorMod(k, sectors);
         }
 
         void turnBy(int stand, long[] old) {
@@ -1183,11 +1187,17 @@ public final class WheelDisc {
                     least = least == NONE ? s : least;
                 }
             }
-            System.arraycopy(isReachedNext, 0, isReached, 0, view.sectors);
+            takeNext(view.sectors);
             standCounts[i] = found;
             leastStands[i] = least;
             if (found == 0 && slipAt == NONE) {
                 slipAt = i;
+            }
+        }
+
+        private void takeNext(int sectors) {
+            for (int s = 0; s < sectors; s++) {
+                isReached[s] = isReachedNext[s];
             }
         }
 

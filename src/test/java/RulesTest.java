@@ -93,13 +93,29 @@ public final class RulesTest {
             keep(c.getDeclaredFields().length <= 20, c + " has at most twenty fields");
             for (Method m : c.getDeclaredMethods()) {
                 keep(m.getParameterCount() <= 7, m + " has at most seven parameters");
+                keep(!faceHas(m.getName()), m + " has a public one's name");
             }
         }
     }
 
+    private static boolean faceHas(String name) {
+        for (String method : FACE) {
+            if (method.contains(" " + name + "(")) {
+                return true;
+            }
+        }
+        return false;
+    }
+
+    /** Comments become blanks, so that each line keeps its number. */
+    private static String withoutComments(String text) {
+        return Pattern.compile("(?s)/\\*.*?\\*/|//[^\n]*").matcher(text)
+                .replaceAll(comment -> comment.group().replaceAll("[^\n]", " "));
+    }
+
     private static void text() throws Exception {
         String text = Files.readString(Path.of("src/main/java/WheelDisc.java"));
-        String code = text.replaceAll("(?s)/\\*.*?\\*/", " ").replaceAll("//[^\n]*", " ");
+        String code = withoutComments(text);
         for (String forbidden : FORBIDDEN) {
             Matcher m = Pattern.compile(forbidden).matcher(code);
             keep(!m.find(), "the code has " + forbidden);
@@ -115,7 +131,33 @@ public final class RulesTest {
         while (library.find()) {
             keep(allowed.contains(library.group()), "the code calls " + library.group());
         }
+        onlyNumbersAreCopied(code);
+        divisorsAreLookedAt(code);
         methodsAreShort(text.split("\n"));
+    }
+
+    /** Rule 4: System.arraycopy and Arrays.fill go over arrays of numbers. */
+    private static void onlyNumbersAreCopied(String code) {
+        Matcher rows = Pattern.compile("\\b(?!int|long)\\w+\\[\\] (\\w+)").matcher(code);
+        while (rows.find()) {
+            Pattern copied = Pattern.compile("(arraycopy|Arrays\\.fill)\\([^;]*\\b" + rows.group(1) + "\\b");
+            keep(!copied.matcher(code).find(), rows.group(1) + " is no row of numbers, but is copied or filled");
+        }
+    }
+
+    /** Rule 7: a divisor is a constant, or a test of it stands among the seven lines ahead, or in its own. */
+    private static void divisorsAreLookedAt(String code) {
+        String[] lines = code.split("\n");
+        Pattern division = Pattern.compile("(?:[/%] |floorMod\\([^,]*, )([a-z]\\w*)");
+        for (int i = 0; i < lines.length; i++) {
+            Matcher m = division.matcher(lines[i]);
+            while (m.find()) {
+                String near = String.join(" ", Arrays.copyOfRange(lines, Math.max(0, i - 7), i + 1));
+                boolean isLookedAt = near.matches(".*\\b" + m.group(1) + " (<|<=|>=|>|!=) \\d.*")
+                        || near.matches(".*fits\\([^)]*\\b" + m.group(1) + "\\b.*");
+                keep(isLookedAt, "line " + (i + 1) + " divides by " + m.group(1) + ", which is not looked at");
+            }
+        }
     }
 
     private static void methodsAreShort(String[] lines) {
